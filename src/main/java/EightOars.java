@@ -670,24 +670,21 @@ public final class EightOars {
         }
 
         /** What a digit stands for; NONE of anything else. */
-        int digitAt(int place) {
-            int sign = at(place);
+        static int digitOf(int sign) {
             return sign >= '0' && sign <= '9' ? sign - '0' : NONE;
         }
 
-        boolean isLetter(int place) {
-            int sign = at(place);
+        static boolean isLetter(int sign) {
             return sign >= 'a' && sign <= 'z';
         }
 
-        boolean isBlank(int place) {
-            int sign = at(place);
+        static boolean isBlank(int sign) {
             return sign == ' ' || sign == '\n';
         }
     }
 
     /**
-     * A text that was read, as steps: what stands between joins the two values ahead of it.
+     * A text that was read, as steps: a sign stands behind the values that it joins.
      * A step below WORD is a number, from WORD on a name or a key, from SIGN on a sign.
      */
     private static final class Rule {
@@ -709,17 +706,10 @@ public final class EightOars {
             this.half = half;
         }
 
-        int giveOf(int[] names, int[] stack) {
-            int value = valueOf(0, half, names, stack);
-            return Math.max(0, Math.min(MOST_GIVEN, value));
-        }
-
-        int dragOf(int[] names, int[] stack) {
-            int value = valueOf(half, steps.length, names, stack);
-            return Math.max(0, Math.min(Course.MOST_SPEED, value));
-        }
-
-        private int valueOf(int from, int to, int[] names, int[] stack) {
+        /** What give (the part ahead of half) or drag (the other one) comes to by its names. */
+        int valueOf(boolean give, int[] names, int[] stack) {
+            int from = give ? 0 : half;
+            int to = give ? half : steps.length;
             int last = 0;
             int height = 0;
             // the newest value is kept in last, the older ones lie on the stack
@@ -800,19 +790,19 @@ public final class EightOars {
 
         private void next() {
             int at = tokenTo;
-            while (at < tape.size && tape.isBlank(at)) {
+            while (at < tape.size && Tape.isBlank(tape.at(at))) {
                 at++;
             }
+            int sign = tape.at(at);
             tokenFrom = at;
             tokenTo = at + 1;
             if (at >= tape.size) {
                 token = AT_END;
-            } else if (tape.isLetter(at)) {
+            } else if (Tape.isLetter(sign)) {
                 token = wordToken();
-            } else if (tape.digitAt(at) != NONE) {
+            } else if (Tape.digitOf(sign) != NONE) {
                 token = numberToken();
             } else {
-                int sign = tape.at(at);
                 token = SIGNS.indexOf((char) sign) >= 0 ? Rule.SIGN + sign : WRONG;
             }
         }
@@ -820,9 +810,9 @@ public final class EightOars {
         private int numberToken() {
             int to = tokenFrom;
             int value = 0;
-            while (to < tape.size && tape.digitAt(to) != NONE) {
+            while (to < tape.size && Tape.digitOf(tape.at(to)) != NONE) {
                 if (to - tokenFrom < MOST_DIGITS) {
-                    value = 10 * value + tape.digitAt(to);
+                    value = 10 * value + Tape.digitOf(tape.at(to));
                 }
                 to++;
             }
@@ -832,7 +822,7 @@ public final class EightOars {
 
         private int wordToken() {
             int to = tokenFrom;
-            while (to < tape.size && tape.isLetter(to)) {
+            while (to < tape.size && Tape.isLetter(tape.at(to))) {
                 to++;
             }
             tokenTo = to;
@@ -990,10 +980,12 @@ public final class EightOars {
                     return at;
                 }
                 int digits = at + 1;
-                if (tape.digitAt(digits) == NONE) {
+                int first = Tape.digitOf(tape.at(digits));
+                int second = Tape.digitOf(tape.at(digits + 1));
+                if (first == NONE) {
                     return digits;
                 }
-                int number = numberAt(digits);
+                int number = second == NONE ? first : 10 * first + second;
                 if (number == 0) {
                     // behind the one 0, or the second 0 of two
                     return digits + 1;
@@ -1002,7 +994,7 @@ public final class EightOars {
                     return digits;
                 }
                 append(kindAt(at), number);
-                at = tape.digitAt(digits + 1) == NONE ? digits + 1 : digits + 2;
+                at = second == NONE ? digits + 1 : digits + 2;
             }
             if (at < tape.size) {
                 return at;
@@ -1012,25 +1004,23 @@ public final class EightOars {
         }
 
         private void append(int kind, int number) {
-            Arrays.fill(kinds[size], sizes[size], sizes[size] + number, kind);
-            sizes[size] += number;
+            int[] row = kinds[size];
+            int from = sizes[size];
+            for (int i = from; i < from + number && i < row.length; i++) {
+                row[i] = kind;
+            }
+            sizes[size] = from + number;
         }
 
         private int kindAt(int place) {
-            return tape.isLetter(place) ? Kinds.LETTERS.indexOf((char) tape.at(place)) : NONE;
-        }
-
-        private int numberAt(int place) {
-            int first = tape.digitAt(place);
-            int second = tape.digitAt(place + 1);
-            return second == NONE ? first : 10 * first + second;
+            int sign = tape.at(place);
+            return Tape.isLetter(sign) ? Kinds.LETTERS.indexOf((char) sign) : NONE;
         }
     }
 
     /** A row as it is gone through: it works on stores and seats of its own. */
     private static final class Course {
-        static final int MOST_SPEED = 99999;
-        private static final int BOAT_WEIGHT = 200;
+        private static final int MOST_SPEED = 99999, MOST_DRAG = 99999, BOAT_WEIGHT = 200;
 
         private final Crew crew;
         private final Boat boat;
@@ -1119,13 +1109,15 @@ public final class EightOars {
 
         private int waterNow() {
             nameAll(0, seats[0]);
-            int drag = rule == null ? 0 : rule.dragOf(names, stack);
+            int drag = rule == null ? 0 : rule.valueOf(false, names, stack);
+            drag = Math.max(0, Math.min(MOST_DRAG, drag));
             return Math.max(0, drag * boat.drag / 100 + boat.wind);
         }
 
         private int driveOf(int seat, int rower, int kind) {
             nameAll(seat, rower);
-            int g = rule == null ? 0 : rule.giveOf(names, stack);
+            int g = rule == null ? 0 : rule.valueOf(true, names, stack);
+            g = Math.max(0, Math.min(MOST_GIVEN, g));
             if (stores[rower] == 0) {
                 g /= 2;
             }

@@ -105,6 +105,11 @@ public final class PiecesTest {
         }
         Due.is("all against all", x.go(0xFE0), 0x7E0);
         Due.is("all twelve", x.go(0xFFF), 0xFE5);
+        EightOars z = withRowers(2);
+        for (int i = 0; i < 12; i++) {
+            z.piece(0, 1, 10 * i, 4);
+        }
+        Due.is("of twelve but one goes", z.go(0xFFF), 0x7FF);
         EightOars y = withRowers(3);
         y.piece(0, 1, 10, 0);
         y.piece(1, 2, 10, 0);

@@ -79,5 +79,12 @@ public final class RacesTest {
         Due.is("alone", x.fair(), 1 + 4 + 8);
         Due.race(x, 0, 0, 0, 0, 0, 0);
         Due.is("nobody", x.fair(), 1 + 4 + 8);
+        x = new EightOars();
+        for (int i = 0; i < 20; i++) {
+            Due.race(x, 5 + i % 2, 0, 7, 0, 0, 6 - i % 2);
+        }
+        Due.is("all 20, each by itself", x.fair(), 1 + 32);
+        Due.is("all 20, above", x.lanes(0, 2, 0), -3);
+        Due.is("all 20, below", x.lanes(0, 2, 1), 2);
     }
 }

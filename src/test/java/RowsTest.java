@@ -325,6 +325,8 @@ public final class RowsTest {
         Due.is("all are worth it, WAY", x.spurts(4, 0, 1), 445 + 886 + 878 + 870);
         Due.is("STARTS alone", x.spurts(3, 3, 0), 0);
         Due.is("STARTS alone, WAY", x.spurts(3, 3, 1), 237 + 474 + 474);
+        Due.is("one STROKE", x.spurts(1, 0, 0), 1);
+        Due.is("one STROKE, WAY", x.spurts(1, 0, 1), 445);
         int[][] wrong = {{0, 0, 0}, {61, 0, 0}, {-1, 0, 0}, {5, -1, 0}, {5, 6, 0}, {5, 0, -1},
             {5, 0, 2}, {Integer.MAX_VALUE, 0, 0}};
         for (int[] told : wrong) {

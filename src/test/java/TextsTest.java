@@ -71,6 +71,7 @@ public final class TextsTest {
         fault("give 1234 5;drag 2;", 10);
         fault("give forces;drag 2;", 5);
         fault("give forc;drag 2;", 5);
+        fault("give forcez;drag 2;", 5);
         fault("give Force;drag 2;", 5);
         fault("giveforce;drag 2;", 0);
         fault("give 1\t;drag 2;", 6);
