@@ -41,16 +41,37 @@ final class Due {
         return x.text();
     }
 
+    /** Reads a text and makes it THE RULE. */
+    static void rule(EightOars x, String text) {
+        int number = text(x, text);
+        is("a right text: " + text, number > 0 ? 1 : 0, 1);
+        x.force(number);
+    }
+
     static int plan(EightOars x, String text) {
         feed(x, text);
         return x.plan();
     }
 
-    static void race(EightOars x, int... times) {
-        x.sheet(3, 2, times.length);
-        for (int i = 0; i < times.length; i++) {
-            x.cell(3, i, times[i]);
+    /** A sheet of that sort with these numbers. */
+    static void sheet(EightOars x, int sheet, int sort, int... cells) {
+        x.sheet(sheet, sort, cells.length);
+        for (int i = 0; i < cells.length; i++) {
+            x.cell(sheet, i, cells[i]);
         }
-        x.race(3);
+    }
+
+    static int race(EightOars x, int... times) {
+        sheet(x, 3, 2, times);
+        return x.race(3);
+    }
+
+    /** As many rowers as told, each of weight 100 and force 1, with full stores that don't fill. */
+    static EightOars withRowers(int n) {
+        EightOars x = new EightOars();
+        for (int i = 0; i < n; i++) {
+            x.rower(100, 1, 9999, 0);
+        }
+        return x;
     }
 }
