@@ -53,6 +53,11 @@ public final class LanguageTest {
         for (Field field : EightOars.class.getDeclaredFields()) {
             if (!Modifier.isPrivate(field.getModifiers())) {
                 constants.add(field.getName());
+                int is = field.getModifiers();
+                Due.holds(field.getName() + " is a constant",
+                        Modifier.isPublic(is) && Modifier.isStatic(is) && Modifier.isFinal(is));
+                Due.holds(field.getName() + " is of its type",
+                        field.getType() == (field.getName().equals("NO") ? long.class : int.class));
             }
         }
         Due.holds("the constants", constants.equals(Set.of("NONE", "BAD", "STATE", "FULL", "NO")));

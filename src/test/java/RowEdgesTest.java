@@ -10,6 +10,7 @@ public final class RowEdgesTest {
 
     public static void main(String[] args) {
         beginsAnew();
+        strokeByStroke();
         whoSit();
         given();
         halfOfNothing();
@@ -41,6 +42,7 @@ public final class RowEdgesTest {
         rown();
         moreOfAllSeats();
         moreIsAsIfChanged();
+        bestChangeIsTheGreatest();
         bestChangeOfLosses();
         bestChangeIsTheLast();
         bestChangeOfLikeOnes();
@@ -84,6 +86,27 @@ public final class RowEdgesTest {
             Due.is("the same WAY", x.rown(1), 300);
         }
         Due.is("but STORES are less", x.rowerTold(0, 2), 9999 - 6 * 300);
+    }
+
+    /** "STROKE by STROKE": one of each KIND, each from what the one ahead left; "together" */
+    private static void strokeByStroke() {
+        EightOars x = new EightOars();
+        x.rower(100, 50, 500, 10);
+        x.sit(0, 0);
+        x.water(1, 2);
+        Due.rule(x, "give 90;drag speed;");
+        String plan = "";
+        // PULLS: 60, 90, 112, 45, 42, 30; WATER: 2, 5, 10, 16, 15, 14; COSTS: 95, 90, 180, 90, 92, 31
+        long[][] due = {{18, 18, 60, 2, 0, 415}, {61, 43, 150, 7, 0, 335}, {131, 70, 262, 17, 0, 165},
+            {198, 67, 307, 33, 2, 85}, {261, 63, 349, 48, 5, 10}, {320, 59, 379, 62, 5, 10}};
+        for (int i = 0; i < due.length; i++) {
+            plan += "srxlwe".charAt(i) + "1";
+            Due.is(plan, Due.plan(x, plan), i);
+            for (int what = 0; what < 5; what++) {
+                told(plan, x, i, what, due[i][what]);
+            }
+            Due.is(plan + ", its STORE", x.left(i, 0), due[i][5]);
+        }
     }
 
     /** "of all who sit, SEAT by SEAT": nobody, one, all eight */
@@ -561,6 +584,33 @@ public final class RowEdgesTest {
                 x.sit(one, b);
                 x.sit(other, a);
                 Due.is("more(1, " + one + other + ")", more, x.row(1, WAY) - was);
+            }
+        }
+    }
+
+    /** "the one with the greatest MORE": of all 28, by several rules */
+    private static void bestChangeIsTheGreatest() {
+        String[] rules = {"give force;drag 0;", "give force * seat;drag speed;", "give store;drag seat;",
+            "give 300 - 20 * seat + force;drag force;", "give gear * 90 - store;drag 9;"};
+        for (String rule : rules) {
+            EightOars x = Whole.busy();
+            // its tape is a plan's beginning: read, it is empty
+            x.plan();
+            Due.rule(x, rule);
+            for (int plan = 0; plan < 3; plan++) {
+                long greatest = Long.MIN_VALUE;
+                int best = -1;
+                for (int one = 0; one < 8; one++) {
+                    for (int other = one + 1; other < 8; other++) {
+                        long more = x.more(plan, 10 * one + other);
+                        if (more > greatest) {
+                            greatest = more;
+                            best = 10 * one + other;
+                        }
+                    }
+                }
+                Due.is("SEATS by " + rule, x.change(plan, 0), best);
+                Due.is("MORE by " + rule, x.change(plan, 1), greatest);
             }
         }
     }

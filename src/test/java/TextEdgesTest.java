@@ -15,6 +15,12 @@ public final class TextEdgesTest {
         numbersAsLongAsCanBe();
         blanks();
         everyByte();
+        partsOfAText();
+        partsOfAnE();
+        partsOfAnAnd();
+        partsOfASum();
+        partsOfATerm();
+        ones();
         names();
         keysAreNoNames();
         wordsThatAreNeither();
@@ -194,6 +200,113 @@ public final class TextEdgesTest {
                 fault(first, 0);
             }
         }
+    }
+
+    /** "TEXT: give E ; drag E ;": each of the six left out, and each of them twice */
+    private static void partsOfAText() {
+        String[] parts = {"give ", "1 ", "; ", "drag ", "2 ", "; "};
+        int[] without = {0, 5, 7, 9, 14, 16};
+        int[] twice = {5, 7, 9, 14, 16, 18};
+        for (int part = 0; part < 6; part++) {
+            StringBuilder less = new StringBuilder();
+            StringBuilder more = new StringBuilder();
+            for (int i = 0; i < 6; i++) {
+                less.append(i == part ? "" : parts[i]);
+                more.append(parts[i]).append(i == part ? parts[i] : "");
+            }
+            fault(less.toString(), without[part]);
+            fault(more.toString(), twice[part]);
+        }
+        right(String.join("", parts));
+    }
+
+    /** "E: AND { or AND }": one, two, three, and as many as there can be */
+    private static void partsOfAnE() {
+        gives("4", 4);
+        gives("0 or 4", 1);
+        gives("0 or 0 or 4", 1);
+        gives("4 or 0 or 0", 1);
+        gives("0 or 0 or 0 or 0", 0);
+        gives("0" + " or 0".repeat(28) + " or 4", 1);
+        gives("0" + " or 0".repeat(29), 0);
+        gives("1 and 0 or 0 and 1", 0);
+        gives("1 and 0 or 1 and 1", 1);
+        gives("1 or 1 and 0 or 0", 1);
+        fault("give 0 or 0 or;drag 1;", 14);
+        fault("give or 0;drag 1;", 5);
+    }
+
+    /** "AND: NOT { and NOT }": one, two, three, and as many as there can be */
+    private static void partsOfAnAnd() {
+        gives("7", 7);
+        gives("7 and 8", 1);
+        gives("7 and 8 and 9", 1);
+        gives("7 and 8 and 0", 0);
+        gives("7 and 0 and 9", 0);
+        gives("0 and 8 and 9", 0);
+        gives("7 and not 0 and not not 3", 1);
+        gives("not 0 and not 1", 0);
+        gives("1 < 2 and 2 < 3 and 3 = 3", 1);
+        gives("1" + " and 1".repeat(24), 1);
+        gives("1" + " and 1".repeat(23) + " and 0", 0);
+        fault("give 1 and 1 and;drag 1;", 16);
+        fault("give and 1;drag 1;", 5);
+    }
+
+    /** "SUM: TERM { + or - TERM }": the first ones first, and ahead of < and = */
+    private static void partsOfASum() {
+        gives("20 - 3 - 4", 13);
+        gives("20 - 3 + 4", 21);
+        gives("20 + 3 - 4", 19);
+        gives("20 - (3 - 4)", 21);
+        gives("20 - 2 * 3", 14);
+        gives("2 * 3 - 4 * 1 + 5 * 6", 32);
+        gives("20 - 5 < 16", 1);
+        gives("20 - 5 < 15", 0);
+        gives("15 < 20 - 4", 1);
+        gives("20 - 5 = 10 + 5", 1);
+        gives("9" + "-1+1".repeat(35), 9);
+        fault("give 1 + 1 -;drag 1;", 12);
+    }
+
+    /** "TERM: ONE { * ONE }": ahead of + and - */
+    private static void partsOfATerm() {
+        gives("5", 5);
+        gives("5 * 6", 30);
+        gives("2 * 3 * 4", 24);
+        gives("2 + 3 * 4", 14);
+        gives("2 * 3 + 4", 10);
+        gives("(2 + 3) * 4", 20);
+        gives("2 * (3 + 4)", 14);
+        gives("2 * - 3 + 10", 4);
+        gives("- 2 * - 3", 6);
+        gives("2 * 3 = 6", 1);
+        gives("7" + "*1".repeat(73), 7);
+        fault("give 2 * ;drag 1;", 9);
+        fault("give 2 * * 3;drag 1;", 9);
+        fault("give * 2;drag 1;", 5);
+    }
+
+    /** "ONE: a NUMBER, a NAME, - ONE, ( E )" */
+    private static void ones() {
+        gives("34", 34);
+        gives("force", 17);
+        gives("10 + - 3", 7);
+        gives("10 - - 3", 13);
+        gives("- 3 + 10", 7);
+        gives("- force + 20", 3);
+        gives("- (3 + 4) + 10", 3);
+        gives("- - - 3 + 10", 7);
+        gives("5 + (0 or 4)", 6);
+        gives("5 + (3 and 4)", 6);
+        gives("5 + (not 4)", 5);
+        gives("5 + (3 < 4)", 6);
+        gives("(3 + 4)", 7);
+        gives("((force))", 17);
+        fault("give -;drag 1;", 6);
+        fault("give - + 1;drag 1;", 7);
+        fault("give - ) 1;drag 1;", 7);
+        fault("give (1 2);drag 1;", 8);
     }
 
     /** "NAMES are force store seat gear speed stroke" */
