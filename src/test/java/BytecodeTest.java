@@ -35,6 +35,11 @@ public final class BytecodeTest {
     private static final Set<String> OPEN_TO_OTHERS = new TreeSet<>();
 
     public static void main(String[] args) throws Exception {
+        if (ToolProvider.findFirst("javap").isEmpty()) {
+            // .ci/run promises to need javac and java alone
+            System.out.println("no javap here: the bytecode was not looked at");
+            return;
+        }
         read();
         library();
         noThrowing();
