@@ -1,11 +1,11 @@
 import java.util.Random;
 
 /**
- * Runs of 512 calls, the same ones each time, on the class and on PlainOars: all promises at once,
- * with numbers of all sizes. It also fails if a call throws.
+ * Runs of some 500 calls, the same ones each time, on the class and on PlainOars: all promises at
+ * once, with numbers of all sizes. It also fails if a call throws.
  */
 public final class RandomRunsTest {
-    private static final int RUNS = 60, CALLS = 512;
+    private static final int RUNS = 100, CALLS = 512, DEAREST_STEP = 24;
     private static final String[] BITS = {"give ", "drag ", ";", " ", "\n", "(", ")", "-", "+", "*",
         "<", "=", " or ", " and ", " not ", "force", "store", "seat", "gear", "speed", "stroke", "7",
         "9999", "12345", "x", "?", "r1", "0"};
@@ -13,6 +13,7 @@ public final class RandomRunsTest {
     private final Random random;
     private final EightOars x = new EightOars();
     private final PlainOars y = new PlainOars();
+    private int used;
 
     private RandomRunsTest(long seed) {
         random = new Random(seed);
@@ -28,8 +29,9 @@ public final class RandomRunsTest {
             if (run % 3 == 0) {
                 r.prepare();
             }
-            for (int call = 0; call < CALLS; call++) {
-                r.step("run " + run + ", call " + call);
+            // a text of 160 bytes takes 20 calls, and one to read it
+            while (r.used <= CALLS - DEAREST_STEP) {
+                r.step("run " + run + ", call " + r.used);
             }
         }
         Due.end();
@@ -43,6 +45,7 @@ public final class RandomRunsTest {
             Due.is("sit", x.sit(i, i), y.sit(i, i));
             int gear = 1 + random.nextInt(9);
             Due.is("rig", x.rig(i, 1, gear), y.rig(i, 1, gear));
+            used += 3;
         }
     }
 
@@ -56,10 +59,10 @@ public final class RandomRunsTest {
             String plan = somePlan();
             feedBoth(plan);
             Due.is(plan, x.plan(), y.plan());
-            int rule = x.count(3) - 1;
+            int rule = y.count(3) - 1;
             Due.is("force", x.force(rule), y.force(rule));
             Due.is("planned", x.planned(0, -1), y.planned(0, -1));
-            if (x.planned(0, -1) < 40) {
+            if (y.planned(0, -1) < 40) {
                 for (int what = 0; what < 5; what++) {
                     Due.is("row by " + text, x.row(0, what), y.row(0, what));
                 }
@@ -97,6 +100,7 @@ public final class RandomRunsTest {
                 bytes = bytes << 8 | text.charAt(from + i);
             }
             Due.is("feed", x.feed(n, bytes), y.feed(n, bytes));
+            used++;
         }
     }
 
@@ -143,6 +147,7 @@ public final class RandomRunsTest {
 
     private void step(String at) {
         int call = random.nextInt(34);
+        used++;
         String name = at + ", of kind " + call;
         if (call < 6) {
             rowersAndSeats(name, call);
@@ -166,12 +171,12 @@ public final class RandomRunsTest {
                 break;
             }
             case 1: {
-                int r = inside(x.count(0)), what = in(0, 4);
+                int r = inside(y.count(0)), what = in(0, 4);
                 Due.is(name, x.rowerTold(r, what), y.rowerTold(r, what));
                 break;
             }
             case 2: {
-                int r = in(-1, x.count(0));
+                int r = in(-1, y.count(0));
                 Due.is(name, x.sit(a, r), y.sit(a, r));
                 break;
             }
@@ -209,7 +214,7 @@ public final class RandomRunsTest {
                 break;
             }
             case 8: {
-                int text = inside(x.count(3));
+                int text = inside(y.count(3));
                 Due.is(name, x.force(text), y.force(text));
                 break;
             }
@@ -219,7 +224,7 @@ public final class RandomRunsTest {
                 break;
             }
             default: {
-                int plan = inside(x.count(2)), i = in(-1, Math.max(0, x.planned(plan, -1)));
+                int plan = inside(y.count(2)), i = in(-1, Math.max(0, y.planned(plan, -1)));
                 Due.is(name, x.planned(plan, i), y.planned(plan, i));
                 break;
             }
@@ -227,7 +232,7 @@ public final class RandomRunsTest {
     }
 
     private void rows(String name, int call) {
-        int plan = inside(x.count(2));
+        int plan = inside(y.count(2));
         switch (call) {
             case 11: {
                 int what = in(0, 4);
@@ -235,7 +240,7 @@ public final class RandomRunsTest {
                 break;
             }
             case 12: {
-                int r = inside(x.count(0));
+                int r = inside(y.count(0));
                 Due.is(name, x.left(plan, r), y.left(plan, r));
                 break;
             }
@@ -270,7 +275,7 @@ public final class RandomRunsTest {
     }
 
     private int someBits(int most) {
-        int n = Math.min(most, x.count(6));
+        int n = Math.min(most, y.count(6));
         int bits = n == 0 ? 0 : random.nextInt(1 << n);
         for (int i = random.nextInt(4); i > 0; i--) {
             bits &= random.nextInt();
@@ -279,7 +284,7 @@ public final class RandomRunsTest {
     }
 
     private void piecesAndRaces(String name, int call) {
-        int a = inside(x.count(0)), b = inside(x.count(0));
+        int a = inside(y.count(0)), b = inside(y.count(0));
         switch (call) {
             case 18: {
                 int near = random.nextInt(3) == 0 ? 9999 : 30;
@@ -306,6 +311,7 @@ public final class RandomRunsTest {
                         int t = random.nextInt(4) == 0 ? 0 : in(0, random.nextBoolean() ? 9 : 9999);
                         Due.is(name, x.cell(sheet, i, t), y.cell(sheet, i, t));
                     }
+                    used += 7;
                 }
                 Due.is(name, x.race(sheet), y.race(sheet));
                 break;
@@ -360,7 +366,7 @@ public final class RandomRunsTest {
                 break;
             }
             default: {
-                int plan = inside(x.count(2)), i = inside(x.planned(plan, -1)), k = in(0, 5);
+                int plan = inside(y.count(2)), i = inside(y.planned(plan, -1)), k = in(0, 5);
                 Due.is(name, x.taken(plan, i, k), y.taken(plan, i, k));
                 break;
             }
